@@ -175,7 +175,12 @@ public final class PromiseTests {
         dueDrawing("fed abcdefg 0 1;", -5, 1);
         dueDrawing("fed a1 0 1;", -5, 1);
         dueDrawing("fed 1 0 1;", -5, 1);
-        dueDrawing("fed each 0 1;fed law 0 1;fed in 0 1;", 3, 0);
+        for (String word : ("each some all or and not right left rights lefts wet gives takes high in hears goes "
+            + "count door model law").split(" ")) {
+            dueDrawing("fed " + word + " 0 1;", 1, 0);
+        }
+        dueDrawing("rub 0;magnet a 0 1 at 0;", 1, 0);
+        dueDrawing("rub 0;rub 0;", -7, 3);
         for (String word : "turn rub weight float magnet spring fed arm out from to at shut".split(" ")) {
             dueDrawing("fed " + word + " 0 1;", -5, 1);
         }
@@ -382,6 +387,20 @@ public final class PromiseTests {
         due("stand 3", x.stand(3), 4);
         due("stands without rub", x.stands(16), 0);
         due("stand of none", x.stand(0), NONE);
+        // E of just 0 is not below 0: from 1 and 6 it can go forward so, from 3 and 4 backward
+        put(x, "turn 8;rub 3;fed a 6 3;magnet m 0 3 at 2 shut 5 to 0;");
+        x.drawing();
+        due("stands but where E would be 0", x.stands(0), 2);
+        due("at the magnet", x.stand(0), 2);
+        due("behind the feeding", x.stand(1), 7);
+        put(x, "turn 48;rub 1;");
+        x.drawing();
+        due("all 48", x.stands(0), 48);
+        due("the last", x.stand(47), 47);
+        put(x, "turn 8;rub 1;");
+        x.drawing();
+        due("all 8 behind 48", x.stands(0), 8);
+        due("none behind", x.stand(8), NONE);
     }
 
     private static void claimForm() {
@@ -558,6 +577,11 @@ public final class PromiseTests {
         due("x", y.hiddenAt(0, 0), 1);
         due("g from 5", y.hiddenAt(0, 1), 5);
         due("g to 14", y.hiddenAt(9, 1), 14);
+        ForeverOffice z = with("turn 8;float f 0 1 from 1 to 1;");
+        putPairs(z, 0);
+        due("LAWS as told: going in takes 30", z.hidden(0, 39), -2);
+        putPairs(z, 3);
+        due("LAWS as told: going in takes 30 of 39", z.hidden(0, 39), 10);
         hidingOften();
     }
 
@@ -725,6 +749,12 @@ public final class PromiseTests {
         due("just enough ahead of the pin", x.feeding(1, 0, 3, 0), 24);
         due("999", x.feeding(0, 0, 0, 975), 999);
         due("999 do not", x.feeding(0, 0, 0, 976), NONE);
+        due("the load is taken at 0, ahead of the pin", x.feeding(1, 0, 8, 6), NONE);
+        due("just enough for it", x.feeding(1, 0, 9, 6), 30);
+        due("and not at 1", x.feeding(0, 1, 20, 6), NONE);
+        ForeverOffice y = with("turn 8;float f 0 1 from 1 to 1;");
+        due("LAWS as told: going in takes 30", y.feeding(7, 0, 29, 0), NONE);
+        due("going in takes 30", y.feeding(7, 0, 30, 0), 1);
         int[][] calls = {{8, 0, 0, 0}, {-1, 0, 0, 0}, {0, 8, 0, 0}, {0, -1, 0, 0}, {0, 0, -1, 0}, {0, 0, 100001, 0}, {0, 0, 0, -1}, {0, 0, 0, 10000}};
         for (int[] call : calls) {
             due("feeding not as told", x.feeding(call[0], call[1], call[2], call[3]), -2);
@@ -772,6 +802,13 @@ public final class PromiseTests {
         dueRight("turn 48;magnet a 0 1 at 4 shut 20 to 2;", 0, 1, 0, 0, 0, 0, 0);
         dueRight("turn 8;spring a 4 99 from 0 to 0;", 0, 1, 0, 0, 0, 0, 1);
         dueRight("turn 8;weight a 0 1 arm 1;weight b 4 1 arm 1;", 0, 1, 0, 0, 0, 0, 1);
+        // walls of 1000 on both sides of t = 0, then of 1001
+        dueRight("turn 8;spring a 0 25 from 1 to 7;", 0, 1, 0, 0, 0, 0, 1);
+        dueRight("turn 8;spring a 0 25 from 1 to 7;weight b 0 1 arm 1;", 1, 1, 0, 1, 0, 0, 1);
+        // walls that are there with LAWS as told alone, and from t = 0 alone
+        dueRight("turn 8;float f 0 99 from 1 to 7;", 0, 1, 1, 1, 0, 0, 1);
+        dueRight("turn 8;rub 999;fed a 0 99;", 0, 1, 0, 1, 1, 1, 1);
+        dueRight("turn 8;rub 1;fed a 0 8;", 0, 1, 0, 0, 1, 1, 1);
         due("right 7", new ForeverOffice().right(7), NONE);
         due("right -1", new ForeverOffice().right(-1), NONE);
         ForeverOffice x = with(SWING);
