@@ -10,7 +10,7 @@ import java.util.NoSuchElementException;
 import java.util.Random;
 
 /** Any calls in any order, with any arguments: nothing but what the document says is ever thrown. */
-public final class AnyCallTests {
+public final class AnyCallTests extends Check {
     private static final String[] PIECES = {
         "turn 8;", "turn 48;", "rub 9;", "weight a 0 2 arm 3 out 5 from 4 to 6;", "float b 1 9 from 6 to 2;", "fed c 7 99;",
         "magnet d 3 7 at 1 shut 2 to 5;", "spring e 2 1 from 1 to 1;", "each ", "some ", "all ", "not ", "(", ")", "1=1", " or ",
@@ -28,15 +28,8 @@ public final class AnyCallTests {
             text.append(PIECES[r.nextInt(PIECES.length)]);
         }
         byte[] bytes = text.toString().getBytes(StandardCharsets.ISO_8859_1);
-        byte[] all = Arrays.copyOf(bytes, (bytes.length + 19) / 20 * 20);
         int before = x.count(4);
-        for (int i = 0; i < all.length; i += 20) {
-            int[] n = new int[5];
-            for (int j = 0; j < 20; j++) {
-                n[j / 4] = n[j / 4] << 8 | all[i + j] & 255;
-            }
-            x.feed(n[0], n[1], n[2], n[3], n[4]);
-        }
+        feed(x, bytes);
         x.end(before + bytes.length);
     }
 
@@ -49,7 +42,6 @@ public final class AnyCallTests {
             }
         }
         face.sort(Comparator.comparing(Method::getName));
-        int wrong = 0;
         for (int round = 0; round < 400; round++) {
             ForeverOffice x = new ForeverOffice();
             for (int i = 0; i < 300; i++) {
@@ -65,16 +57,10 @@ public final class AnyCallTests {
                     method.invoke(x, arguments);
                 } catch (InvocationTargetException e) {
                     boolean told = method.getExceptionTypes().length == 1 && e.getCause().getClass() == NoSuchElementException.class;
-                    if (!told) {
-                        wrong++;
-                        System.out.println(method.getName() + Arrays.toString(arguments) + " throws " + e.getCause());
-                    }
+                    due(method.getName() + Arrays.toString(arguments) + " throws " + e.getCause() + " as told", told, true);
                 }
             }
         }
-        System.out.println(wrong == 0 ? "AnyCallTests: nothing else was thrown" : "AnyCallTests: " + wrong + " throws too many");
-        if (wrong != 0) {
-            System.exit(1);
-        }
+        tell("AnyCallTests");
     }
 }

@@ -14,7 +14,7 @@ import java.util.NoSuchElementException;
 import java.util.Set;
 
 /** The document's face, and what of LANGUAGE.md can be seen from outside or in the source's words. */
-public final class FaceTests {
+public final class FaceTests extends Check {
     private static final String[] FACE = {
         "int feed 5", "boolean end 1", "int drawing 0", "int fault 0", "int place 2 throws", "int energy 2 throws",
         "int gives 3 throws", "int sum 2 throws", "int run 3", "int ran 1", "int stands 1", "int stand 1", "int claim 0",
@@ -23,13 +23,9 @@ public final class FaceTests {
         "int inventor 0", "int right 1", "int answer 0", "int answerAt 1", "int count 1"};
     private static final String[] RULED_OUT = {
         "catch", "try", "finally", "synchronized", "assert", "->", "::", "var ", "System.out", "instanceof", "Exact("};
-    private static int wrong = 0;
 
     private static void due(String what, boolean so) {
-        if (!so) {
-            wrong++;
-            System.out.println("not so: " + what);
-        }
+        due(what, so, true);
     }
 
     private static void checkFace() {
@@ -110,9 +106,6 @@ public final class FaceTests {
             checkClass(type);
         }
         checkSource();
-        System.out.println(wrong == 0 ? "FaceTests: all is as due" : "FaceTests: " + wrong + " are not so");
-        if (wrong != 0) {
-            System.exit(1);
-        }
+        tell("FaceTests");
     }
 }

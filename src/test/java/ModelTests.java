@@ -1,4 +1,3 @@
-import java.nio.charset.StandardCharsets;
 import java.util.ArrayDeque;
 import java.util.ArrayList;
 import java.util.Arrays;
@@ -13,13 +12,11 @@ import java.util.function.IntPredicate;
 import java.util.function.IntUnaryOperator;
 
 /** Made-up offices, each answer against a slow second way of finding it. The seed is fixed. */
-public final class ModelTests {
-    private static final int NONE = ForeverOffice.NONE;
+public final class ModelTests extends Check {
     private static final Set<String> RESERVED =
         new HashSet<>(Arrays.asList("turn rub weight float magnet spring fed arm out from to at shut".split(" ")));
     private static final List<String> VALUES = Arrays.asList("right left rights lefts wet gives takes high".split(" "));
     private static final List<String> SAYINGS = Arrays.asList("count turn door model rub fed law".split(" "));
-    private static int wrong = 0;
     private static final int[] seen = new int[12];
 
     /** A FAULT met while reading. */
@@ -558,28 +555,6 @@ public final class ModelTests {
         return null;
     }
 
-    private static void due(String what, int got, int want) {
-        if (got != want) {
-            wrong++;
-            if (wrong < 40) {
-                System.out.println(what + " answered " + got + ", due is " + want);
-            }
-        }
-    }
-
-    private static void put(ForeverOffice o, String text) {
-        byte[] bytes = text.getBytes(StandardCharsets.ISO_8859_1);
-        byte[] all = Arrays.copyOf(bytes, (bytes.length + 19) / 20 * 20);
-        for (int i = 0; i < all.length; i += 20) {
-            int[] n = new int[5];
-            for (int j = 0; j < 20; j++) {
-                n[j / 4] = n[j / 4] << 8 | all[i + j] & 255;
-            }
-            o.feed(n[0], n[1], n[2], n[3], n[4]);
-        }
-        o.end(bytes.length);
-    }
-
     private static String makePart(Random r, int n, String name) {
         String head = " " + name + " " + r.nextInt(n) + " " + (1 + r.nextInt(r.nextBoolean() ? 99 : 9));
         String range = r.nextInt(n) + " to " + r.nextInt(n);
@@ -939,15 +914,9 @@ public final class ModelTests {
             checkSame(r, o, d, text);
         }
         for (int i = 0; i < seen.length; i++) {
-            if (seen[i] == 0) {
-                wrong++;
-                System.out.println("nothing made up was of sort " + i);
-            }
+            due("something made up was of sort " + i, seen[i] > 0, true);
         }
         System.out.println("ModelTests: sorts seen " + Arrays.toString(seen));
-        System.out.println(wrong == 0 ? "ModelTests: all answers are as due" : "ModelTests: " + wrong + " are not");
-        if (wrong != 0) {
-            System.exit(1);
-        }
+        tell("ModelTests");
     }
 }

@@ -1,105 +1,8 @@
-import java.nio.charset.StandardCharsets;
-import java.util.Arrays;
-import java.util.NoSuchElementException;
-import java.util.function.IntSupplier;
-
 /** One method for each promise: ordinary inputs, the edges that the document names, and wrong inputs. */
-public final class PromiseTests {
-    private static final int NONE = ForeverOffice.NONE;
-    private static final int THROWS = Integer.MIN_VALUE;
+public final class PromiseTests extends Check {
     private static final String SWING = "turn 8;weight a 0 2 arm 3 out 5 from 4 to 6;rub 1;";
     private static final String ALL_KINDS =
         "turn 8;float f 0 1 from 0 to 3;magnet m 0 2 at 4 shut 5 to 7;spring s 0 1 from 2 to 2;fed x 6 9;";
-    private static int wrong = 0;
-
-    private static void due(String what, int got, int want) {
-        if (got != want) {
-            wrong++;
-            System.out.println(what + " answered " + got + ", due is " + want);
-        }
-    }
-
-    private static void due(String what, boolean got, boolean want) {
-        due(what, got ? 1 : 0, want ? 1 : 0);
-    }
-
-    private static void dueThrow(String what, IntSupplier call) {
-        int got = 0;
-        try {
-            call.getAsInt();
-        } catch (NoSuchElementException e) {
-            got = THROWS;
-        }
-        due(what + " throws", got, THROWS);
-    }
-
-    private static void put(ForeverOffice x, byte[] bytes) {
-        x.end(0);
-        byte[] all = Arrays.copyOf(bytes, (bytes.length + 19) / 20 * 20);
-        for (int i = 0; i < all.length; i += 20) {
-            int[] n = new int[5];
-            for (int j = 0; j < 20; j++) {
-                n[j / 4] = n[j / 4] << 8 | all[i + j] & 255;
-            }
-            due("feed", x.feed(n[0], n[1], n[2], n[3], n[4]), i + 20);
-        }
-        due("end", x.end(bytes.length), true);
-    }
-
-    private static void put(ForeverOffice x, String text) {
-        put(x, text.getBytes(StandardCharsets.ISO_8859_1));
-    }
-
-    private static void putPairs(ForeverOffice x, int... row) {
-        byte[] bytes = new byte[2 * row.length];
-        for (int i = 0; i < row.length; i++) {
-            bytes[2 * i] = (byte) (row[i] >> 8);
-            bytes[2 * i + 1] = (byte) row[i];
-        }
-        put(x, bytes);
-    }
-
-    private static void putLooks(ForeverOffice x, long... sets) {
-        byte[] bytes = new byte[6 * sets.length];
-        for (int i = 0; i < bytes.length; i++) {
-            bytes[i] = (byte) (sets[i / 6] >> 8 * (i % 6));
-        }
-        put(x, bytes);
-    }
-
-    private static ForeverOffice with(String drawing) {
-        ForeverOffice x = new ForeverOffice();
-        put(x, drawing);
-        if (x.drawing() < 0) {
-            wrong++;
-            System.out.println("no drawing: " + drawing);
-        }
-        return x;
-    }
-
-    private static void dueDrawing(String text, int answer, int fault) {
-        ForeverOffice x = new ForeverOffice();
-        put(x, text);
-        due("drawing: " + text, x.drawing(), answer);
-        due("fault of drawing: " + text, x.fault(), fault);
-        due("tape behind drawing: " + text, x.count(4), 0);
-    }
-
-    private static void dueClaim(String text, int answer, int fault) {
-        ForeverOffice x = new ForeverOffice();
-        put(x, text);
-        due("claim: " + text, x.claim(), answer);
-        due("fault of claim: " + text, x.fault(), fault);
-        due("tape behind claim: " + text, x.count(4), 0);
-    }
-
-    private static void dueInventor(String text, int answer, int fault) {
-        ForeverOffice x = new ForeverOffice();
-        put(x, text);
-        due("inventor: " + text, x.inventor(), answer);
-        due("fault of inventor: " + text, x.fault(), fault);
-        due("tape behind inventor: " + text, x.count(4), 0);
-    }
 
     private static void newObject() {
         ForeverOffice x = new ForeverOffice();
@@ -480,11 +383,7 @@ public final class PromiseTests {
     }
 
     private static void dueHolds(ForeverOffice x, String claim, int holds, int where) {
-        put(x, claim);
-        if (x.claim() < 0) {
-            wrong++;
-            System.out.println("no claim: " + claim);
-        }
+        say(x, claim);
         due("holds: " + claim, x.holds(), holds);
         due("where: " + claim, x.where(), where);
     }
@@ -825,11 +724,7 @@ public final class PromiseTests {
     }
 
     private static void dueAnswer(ForeverOffice x, String inventor, int... want) {
-        put(x, inventor);
-        if (x.inventor() < 0) {
-            wrong++;
-            System.out.println("no inventor: " + inventor);
-        }
+        invent(x, inventor);
         due("answer: " + inventor, x.answer(), want.length == 0 ? NONE : want.length);
         for (int k = 0; k < want.length; k++) {
             due("answerAt " + k + ": " + inventor, x.answerAt(k), want[k]);
@@ -905,9 +800,6 @@ public final class PromiseTests {
         rightSayings();
         answers();
         counts();
-        System.out.println(wrong == 0 ? "PromiseTests: all answers are as due" : "PromiseTests: " + wrong + " are not");
-        if (wrong != 0) {
-            System.exit(1);
-        }
+        tell("PromiseTests");
     }
 }
