@@ -888,6 +888,10 @@ public final class ForeverOffice {
             return place >= places ? place - places : place;
         }
 
+        private static int placeBehind(int place, int places) {
+            return place + 1 < places ? place + 1 : 0;
+        }
+
         int armAt(int place) {
             return isWithin(place) ? outArm : arm;
         }
@@ -917,7 +921,7 @@ public final class ForeverOffice {
                 return t == pin ? w : 0;
             }
             int before = placeAt(t, places);
-            int after = before + 1 < places ? before + 1 : 0;
+            int after = placeBehind(before, places);
             int given = energyAt(before, places) - energyAt(after, places);
             if ((laws & law()) == 0 || !lawCounts(before, after, places)) {
                 return given;
@@ -940,7 +944,7 @@ public final class ForeverOffice {
         boolean takesWhereLawCounts(int places) {
             for (int t = 0; t < places; t++) {
                 int before = placeAt(t, places);
-                int after = before + 1 < places ? before + 1 : 0;
+                int after = placeBehind(before, places);
                 if (lawCounts(before, after, places) && givesIn(t, 0, places) < 0) {
                     return true;
                 }

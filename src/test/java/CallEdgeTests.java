@@ -210,6 +210,10 @@ public final class CallEdgeTests extends Check {
         x.feed(0x3b202020, 0x20202020, 0x20202020, 0x20202020, 0x20202020);
         due("what comes, comes behind what is left", x.drawing(), 0);
         due("rub 1;", x.count(2), 1);
+        put(x, "each 1=12");
+        x.end(8);
+        due("a NUMBER that ends with the tape", x.claim(), 1);
+        due("is 1", x.holds(), 1);
     }
 
     /** Promises 6 to 9 and 17: "NoSuchElementException: no such ones." and "A call that throws changes nothing." */
@@ -409,6 +413,13 @@ public final class CallEdgeTests extends Check {
         }
         draw(x, "turn 8;rub 0;");
         due("the one kept again is the newer", x.same(3), 0);
+        draw(x, "turn 8;weight a 1 2 arm 3 out 4 from 5 to 6;magnet b 7 6 at 5 shut 4 to 3;");
+        x.keep(2);
+        due("all of a PART is kept", x.same(2), 0);
+        draw(x, "turn 8;weight a 1 2 arm 3;magnet b 7 6 at 4;");
+        due("another", x.same(2), NONE);
+        x.keep(2);
+        due("nothing of the one kept ahead is left", x.same(2), 0);
         put(x, "turn 8;rub 5;?");
         due("a drawing with a fault", x.drawing(), -14);
         due("is not the one now", x.same(5), NONE);
@@ -489,15 +500,15 @@ public final class CallEdgeTests extends Check {
             draw(x, "turn 48;rub 9;weight a 1 9 arm 5 out 7 from 0 to 40;magnet b 0 9 at 1 shut 2 to 4;spring c 0 1 from 1 to 1;");
             put(x, "turn 46;rub 8;weight a 1 9 arm 4 out 8 from 0 to 40;magnet b 0 9 at 3 shut 2 to 4;?");
             due("refused", x.drawing() < 0, true);
-            draw(x, "magnet a 0 1 at 12;weight b 0 1 arm 5;");
+            draw(x, "magnet a 0 1 at 0;weight b 0 1 arm 5;");
             due("PARTS", x.count(0), 2);
             due("N", x.count(1), 24);
             due("rub", x.count(2), 0);
-            due("no shut", x.energy(0, 12), -6);
+            due("no shut", x.energy(0, 0), -6);
             due("no out", x.energy(1, 12), 60);
             due("no range", x.needs(2), 0);
             x.keep(0);
-            draw(x, "weight z 0 1 arm 5;magnet y 0 1 at 12;");
+            draw(x, "weight z 0 1 arm 5;magnet y 0 1 at 0;");
             due("same", x.same(0), 0);
             say(x, "each (1=1 or 1=0) and 1=1 and 1=1 and 1=1");
             put(x, "some (1=0 and 1=0");
@@ -510,6 +521,67 @@ public final class CallEdgeTests extends Check {
             due("refused", x.inventor() < 0, true);
             invent(x, "in 0 hears law goes 1;");
             due("no answer", x.answer(), NONE);
+        }
+    }
+
+    /** Three texts one behind the other on one office: the third has nothing of the first. */
+    private static void thirdText() {
+        ForeverOffice x = with("turn 8;weight a 0 1 arm 1;");
+        for (int lines : new int[] {20, 19, 20, 1, 20, 20, 0, 0, 1}) {
+            put(x, "in 0 hears count goes 9;".repeat(lines));
+            due("LINES", x.inventor(), lines);
+            due("answer", x.answer(), lines > 0 ? 1 : NONE);
+        }
+        for (int ones : new int[] {20, 20, 1, 20, 3, 2}) {
+            put(x, "each 1=1" + " and 1=1".repeat(ones - 1));
+            due("ONES", x.claim(), ones);
+            due("holds", x.holds(), 1);
+        }
+    }
+
+    /** All that is found out of a drawing by numbers: VALUES, WHOLES, RUNS, STANDS, SAYINGS. */
+    private static List<Integer> found(ForeverOffice x) {
+        List<Integer> all = new ArrayList<>();
+        for (int v = 0; v < 8; v++) {
+            all.add(x.value(v, NONE));
+            all.add(x.value(v, 0));
+            all.add(x.value(v, 7));
+        }
+        for (int laws = 0; laws < 32; laws++) {
+            all.add(x.sum(NONE, laws));
+            all.add(x.stands(laws));
+        }
+        for (int t = 0; t < 8; t++) {
+            all.add(x.run(t, 40 * t, t));
+            for (int what = 0; what < 5; what++) {
+                all.add(x.ran(what));
+            }
+        }
+        for (int s = 0; s < 7; s++) {
+            all.add(x.right(s));
+        }
+        all.add(x.feeding(1, 0, 500, 3));
+        return all;
+    }
+
+    /** A drawing behind another one on the same office is what it is on a new one. */
+    private static void drawingBehindAnother() {
+        StringBuilder floats = new StringBuilder("turn 8;rub 2;");
+        StringBuilder feds = new StringBuilder("turn 48;");
+        for (char c = 'a'; c <= 'l'; c++) {
+            floats.append("float ").append(c).append(" 0 99 from 7 to 0;");
+            feds.append("fed ").append(c).append(" 1 99;");
+        }
+        String[] drawings = {"", "turn 8;rub 3;weight a 5 9 arm 9;magnet b 0 9 at 4 shut 5 to 7;spring c 0 1 from 2 to 3;fed d 2 30;"
+            + "float e 0 5 from 1 to 1;",
+            floats.toString(), feds.toString(), "turn 8;rub 9;weight a 3 2 arm 1;fed b 5 11;"};
+        for (String first : drawings) {
+            for (String second : drawings) {
+                ForeverOffice x = with(first);
+                draw(x, second);
+                due("found of " + second + " behind " + first, found(x).equals(found(with(second))), true);
+                due("found again", found(x).equals(found(with(second))), true);
+            }
         }
     }
 
@@ -576,6 +648,8 @@ public final class CallEdgeTests extends Check {
         sayingsRefused();
         textsRefused();
         nothingIsLeftOver();
+        thirdText();
+        drawingBehindAnother();
         tapeBehindCalls();
         latestOnes();
         tell("CallEdgeTests");

@@ -1,3 +1,4 @@
+import java.util.Arrays;
 import java.util.function.Function;
 
 /** The bounds of the three texts (Terms, parts 3 and 5, promises 4, 5, 14 and 28): the last that is allowed, the first that is not. */
@@ -278,6 +279,31 @@ public final class TextEdgeTests extends Check {
         }
     }
 
+    /** A LINE that ends too early has its FAULT at the ';'. */
+    private static void endedTooEarly() {
+        dueEndedTooEarly("weight a 0 2 arm 3 out 5 from 4 to 6", 1, Check::dueDrawing, 6, 12);
+        dueEndedTooEarly("float a 0 1 from 1 to 2", 1, Check::dueDrawing, 8);
+        dueEndedTooEarly("magnet a 0 1 at 2 shut 3 to 4", 1, Check::dueDrawing, 6, 10);
+        dueEndedTooEarly("spring a 0 1 from 6 to 7", 1, Check::dueDrawing, 8);
+        dueEndedTooEarly("fed a 7 99", 1, Check::dueDrawing, 4);
+        dueEndedTooEarly("rub 7", 0, Check::dueDrawing, 2);
+        dueEndedTooEarly("turn 8", 0, Check::dueDrawing, 2);
+        dueEndedTooEarly("in 0 hears fed goes 1", 1, Check::dueInventor, 6);
+    }
+
+    /** Of the first words of a LINE only these many are a whole one. */
+    private static void dueEndedTooEarly(String line, int answer, Due due, int... whole) {
+        String text = "";
+        int words = 0;
+        for (String word : line.split(" ")) {
+            text = text + word + " ";
+            words++;
+            int count = words;
+            boolean enough = Arrays.stream(whole).anyMatch(n -> n == count);
+            due.text(text + ";", enough ? answer : -1 - text.length(), enough ? 0 : 1);
+        }
+    }
+
     private static int partsIn(String text) {
         return text.replaceAll("turn [^;]*;|rub [^;]*;|[^;]", "").length();
     }
@@ -423,6 +449,7 @@ public final class TextEdgeTests extends Check {
         parts();
         firstFault();
         brokenOff();
+        endedTooEarly();
         claimOf200();
         ones();
         within();

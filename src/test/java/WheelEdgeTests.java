@@ -180,6 +180,8 @@ public final class WheelEdgeTests extends Check {
         // between a turning back and a turning forward a STEP was done: it does not REST
         dueRun("turn 8;weight a 0 1 arm 1;", from(5, 0, 0), 20000, 1, 2, 3333, 3, 0);
         dueRun("turn 8;weight a 0 1 arm 1;", from(0, 0, 0), 0, 0, 0, 2, 0, 1);
+        dueRun("turn 8;spring a 0 1 from 2 to 7;", from(0, 39, 0), 20000, 0, 39, 19999, 39, 0);
+        dueRun("turn 8;spring a 0 1 from 2 to 7;", from(1, 39, 0), 20000, 1, 39, 20000, 39, 0);
         dueRun("turn 8;weight a 0 1 arm 1;", from(0, 4, 0), 20000, 0, 4, 0, 4, 0);
         dueRun("turn 8;weight a 0 1 arm 1;", from(0, 3, 0), 20000, 6, 1, 3333, 3, 0);
     }
@@ -235,6 +237,8 @@ public final class WheelEdgeTests extends Check {
                 due("lefts at " + t, x.value(3, t), left ? 2 : 0);
                 due("high at " + t, x.value(7, t), 2 * high(t, n));
             }
+            due("right of all", x.value(0, NONE), 6 * (n / 2 - 1));
+            due("left of all", x.value(1, NONE), 6 * (n / 2 - 1));
             due("rights of all", x.value(2, NONE), n - 2);
             due("lefts of all", x.value(3, NONE), n - 2);
         }
@@ -295,6 +299,9 @@ public final class WheelEdgeTests extends Check {
         dueHolds("turn 8;fed a 0 3;", "each not gives=3", 0, 0);
         dueHolds("turn 8;fed a 0 3;", "some gives=3", 1, NONE);
         dueHolds("turn 8;fed a 3 1;fed b 5 1;", "each gives=0", 0, 3);
+        String two = "turn 8;weight a 0 1 arm 1;weight b 4 1 arm 1;";
+        dueHolds(two, "each high=4", 1, NONE);
+        dueHolds(two, "some high<4", 0, NONE);
         // 'all' sums what WORDS tell, and NUMBERS stay
         dueHolds("turn 8;weight a 0 1 arm 1;", "all rights=3 and 3=lefts and 3=3", 1, NONE);
         dueHolds("turn 8;weight a 0 1 arm 1;", "all rights=24", 0, NONE);
@@ -304,6 +311,24 @@ public final class WheelEdgeTests extends Check {
         draw(x, "turn 8;");
         say(x, "some gives=3");
         due("some of 8", x.holds(), 0);
+    }
+
+    /** Each VALUE's WORD tells what value() tells. */
+    private static void valueWords() {
+        String[] words = "right left rights lefts wet gives takes high".split(" ");
+        ForeverOffice x = with("turn 8;weight a 0 2 arm 3 out 5 from 4 to 6;weight b 1 1 arm 7;float f 0 3 from 7 to 1;fed c 1 8;");
+        for (int v = 0; v < words.length; v++) {
+            for (int t = 0; t < 8; t++) {
+                int first = 0;
+                while (x.value(v, first) != x.value(v, t)) {
+                    first++;
+                }
+                say(x, "each not " + words[v] + "=" + x.value(v, t));
+                due("the first t with " + words[v] + " as at " + t, x.where(), first);
+            }
+            say(x, "all " + words[v] + "=" + x.value(v, NONE));
+            due("all " + words[v], x.holds(), 1);
+        }
     }
 
     private static void signsAndJoints() {
@@ -316,6 +341,9 @@ public final class WheelEdgeTests extends Check {
             dueHolds("turn 8;", "all " + one, 1, NONE);
         }
         dueHolds("turn 8;", "each (0=0 or 0=0) and 1=0", 0, 0);
+        dueHolds("turn 8;", "each 1=0 or (1=0 or (1=0 or (1=0 or 0=0)))", 1, NONE);
+        dueHolds("turn 8;", "each 0=0 and (0=0 and (0=0 and (0=0 and 1=0)))", 0, 0);
+        dueHolds("turn 8;", "each 0=0 and 1=0 or (0=0 or 1=0) and (1=0 or 0=0)", 1, NONE);
         dueHolds("turn 8;", "each not 0=0 or 1=0", 0, 0);
         dueHolds("turn 8;", "each not not not not not not not 0=0", 0, 0);
         dueHolds("turn 8;", "each 1=0" + " or 1=0".repeat(18) + " or 0=0", 1, NONE);
@@ -402,6 +430,11 @@ public final class WheelEdgeTests extends Check {
         dueFinds("E below 0 ahead of x", y, hidden(y, 0, 5, 0, 0));
         dueFinds("E below 0 behind x", y, hidden(y, 0, 15, 0, 0), ofOne(1, 5, 14));
         due("E of 0 all along", hidden(y, 0, 20, 1, 0), -2);
+        dueFinds("E of 9 ahead of x", x, hidden(x, 0, 9, 0, 1), ofOne(1, 1, 10));
+        dueFinds("E of 10 ahead of x", x, hidden(x, 0, 10, 1, 2), ofOne(1, 10, 19));
+        ForeverOffice z = with("turn 8;fed a 1 10;float f 0 1 from 3 to 3;");
+        due("each STEP gives its own, LAWS as told", hidden(z, 0, 10, 1, 2, 1, 2, 2), -2);
+        dueFinds("the float takes, LAWS as told", z, hidden(z, 0, 10, 1, 2, 2, 3), ofOne(2, 10, 19));
     }
 
     /** "g more in each STEP that leaves x", "1 to 60 STEPS", "x" 0 to N less 1. */
@@ -559,6 +592,11 @@ public final class WheelEdgeTests extends Check {
         due("from the last t", x.feeding(7, 7, 0, 0), 24);
         due("from the last t with a LOAD at 0", x.feeding(7, 7, 0, 6), 30);
         due("from 1 the LOAD comes last", x.feeding(1, 1, 0, 6), 30);
+        due("just so far to the LOAD", x.feeding(0, 1, 21, 6), 30);
+        due("not so far to the LOAD", x.feeding(0, 1, 20, 6), NONE);
+        due("the LOAD ahead of the PIN", x.feeding(1, 0, 9, 6), 30);
+        due("the LOAD ahead of the PIN is too much", x.feeding(1, 0, 8, 6), NONE);
+        due("999 for the first STEP, more for the turn", x.feeding(0, 0, 0, 996), NONE);
         due("the greatest LOAD", x.feeding(0, 0, 100000, 9999), NONE);
         ForeverOffice y = with("turn 8;");
         due("W is 1 at least", y.feeding(0, 0, 0, 0), 1);
@@ -568,6 +606,9 @@ public final class WheelEdgeTests extends Check {
         due("of the 20th a PIN behind it gives nothing more", y.feeding(7, 0, 19980, 1000), 2);
         due("20 feedings at the PIN", y.feeding(0, 0, 19980, 1000), 1);
         due("one less", y.feeding(0, 0, 19979, 1000), 2);
+        ForeverOffice z = with("turn 8;float f 0 1 from 1 to 1;");
+        due("going in takes 30, LAWS as told", z.feeding(7, 0, 30, 0), 1);
+        due("going in takes more than there is", z.feeding(7, 0, 29, 0), NONE);
         StringBuilder twelve = new StringBuilder("turn 8;");
         for (char c = 'a'; c <= 'l'; c++) {
             twelve.append("fed ").append(c).append(" 0 99;");
@@ -586,10 +627,17 @@ public final class WheelEdgeTests extends Check {
         dueRight(0, "turn 8;weight a 0 1 arm 0;", 1);
         dueRight(0, "turn 8;weight a 0 1 arm 1;weight b 4 1 arm 1;", 0);
         dueRight(0, "turn 8;weight a 0 1 arm 1;weight b 3 1 arm 1;", 1);
+        // more lefts than rights at t = 0 alone, then at t = 7 alone
+        dueRight(0, "turn 8;weight a 3 1 arm 1;weight b 6 1 arm 1;weight c 1 1 arm 1;", 1);
+        dueRight(0, "turn 8;weight a 4 1 arm 1;weight b 7 1 arm 1;weight c 2 1 arm 1;", 1);
         dueRight(1, "turn 8;fed a 0 9;", 1);
+        dueRight(1, "turn 8;float a 0 1 from 0 to 0;", 1);
         dueRight(1, "turn 8;rub 5;weight a 0 1 arm 1 out 9 from 3 to 6;magnet b 0 1 at 4 shut 3 to 4;", 1);
         dueRight(2, "turn 8;float a 0 1 from 4 to 4;", 0);
         dueRight(2, "turn 8;float a 0 1 from 5 to 5;", 1);
+        dueRight(2, "turn 8;float a 0 1 from 0 to 0;", 1);
+        dueRight(2, "turn 8;float a 0 1 from 1 to 1;", 1);
+        dueRight(2, "turn 8;float a 0 1 from 7 to 7;", 1);
         dueRight(2, "turn 8;float a 0 1 from 1 to 0;", 0);
         dueRight(2, "turn 8;spring a 0 1 from 1 to 1;", 0);
         // from 15, 5 away, to 16 it takes 1; from 14 to 15 nothing, and to 16 it gives
@@ -601,6 +649,11 @@ public final class WheelEdgeTests extends Check {
         dueRight(2, "turn 48;magnet a 0 1 at 20;", 0);
         dueRight(3, "turn 8;spring a 0 25 from 1 to 7;", 0);
         dueRight(3, "turn 8;spring a 0 25 from 1 to 7;rub 1;", 1);
+        // walls of 1001 on both sides of t = 0, then of 1040, and of 3960 that are there with LAWS as told alone
+        dueRight(3, "turn 8;spring a 0 25 from 1 to 7;weight b 0 1 arm 1;", 1);
+        dueRight(3, "turn 8;spring a 0 26 from 1 to 7;", 1);
+        dueRight(3, "turn 8;spring a 7 26 from 1 to 7;", 0);
+        dueRight(3, "turn 8;float a 0 99 from 1 to 7;", 1);
         dueRight(3, "turn 8;", 0);
         dueRight(3, "turn 8;rub 1;", 1);
         dueRight(4, "turn 8;rub 0;", 0);
@@ -610,6 +663,9 @@ public final class WheelEdgeTests extends Check {
         dueRight(6, "turn 8;rub 1;", 0);
         dueRight(6, "turn 8;rub 1;fed a 0 8;", 1);
         dueRight(6, "turn 8;rub 1;fed a 0 9;", 0);
+        dueRight(6, "turn 8;float a 0 1 from 0 to 0;", 1);
+        dueRight(6, "turn 8;rub 5;float a 0 1 from 0 to 0;", 1);
+        dueRight(6, "turn 8;rub 5;float a 0 1 from 4 to 4;", 0);
     }
 
     private static void dueAnswer(String inventor, int... want) {
@@ -643,6 +699,13 @@ public final class WheelEdgeTests extends Check {
         }
         dueAnswer(chain.toString(), 6, 6, 6, 6, 6, 6, 6, 6, 6);
         dueAnswer("in 1 hears turn goes 1;".repeat(19) + "in 0 hears turn goes 9;", 1);
+        String[] words = "count turn door model rub fed law".split(" ");
+        for (int s = 0; s < words.length; s++) {
+            ForeverOffice x = with("turn 8;rub 1;weight a 0 1 arm 1;float b 0 1 from 0 to 3;fed c 0 1;");
+            invent(x, "in 0 hears " + words[s] + " goes 9;");
+            due("answer by " + words[s], x.answer(), 1);
+            due("it is " + words[s], x.answerAt(0), s);
+        }
     }
 
     public static void main(String[] args) {
@@ -659,6 +722,7 @@ public final class WheelEdgeTests extends Check {
         sides();
         values();
         claimsAtTheEnds();
+        valueWords();
         signsAndJoints();
         goers();
         needs();
